@@ -16,19 +16,19 @@ public final class ColdShares {
     private static final int ALL_OWED = HOUSES * TOP_FIGURE;
     // price() and gain() ask for one degree more.
     private static final int DEGREES = ALL_OWED + 2;
-    // Stands for "no PLAN": above any HURT, and two of them still fit an int.
+    // Stands for "no PLAN": above any HURT, and one for each HOUSE still fits an int.
     private static final int FAR = 1000000;
 
     private static final int LOT_TIMES = 48271, LOT_MODULUS = 2147483647, LOT_CUT = 8;
     private static final int DEEDS_OF_A_LOT = HOUSES + 1;
 
+    private static final int MISER_TOP = 2;
     private static final int STOUT = 1, POOR = 2, MISER = 3, MAYOR = 4, CHILDREN = 5;
     // By KIND, HOUSE to CHILDREN.
     private static final int[] LETTER = {104, 115, 112, 109, 121, 99};
     private static final int[] ALSO = {0, 0, 0, 0, 3, 2};
     private static final int[] WARMER = {0, 2, 0, 0, 0, -1};
     private static final int[] TIMES = {1, 1, 2, 1, 0, 2};
-    private static final int[] A_NIGHT = {9, 9, 9, 2, 2, 9};
 
     private static final int[] FACTORIAL = {1, 1, 2, 6, 24, 120};
 
@@ -71,18 +71,11 @@ public final class ColdShares {
     }
 
     public int lay(int r, int i, int v) {
-        if (noRow(r)) {
-            return BAD;
+        int seen = at(r, i);
+        if (seen == 1) {
+            rows[r].places[i] = v;
         }
-        if (rows[r].isMissing()) {
-            return answer(NOTHING);
-        }
-        if (!rows[r].has(i, 1)) {
-            return answer(BEYOND);
-        }
-        told = rows[r].places[i];
-        rows[r].places[i] = v;
-        return 1;
+        return seen;
     }
 
     public int at(int r, int i) {
@@ -753,7 +746,7 @@ public final class ColdShares {
         }
 
         int canAt(int cold) {
-            return Math.min(cold, A_NIGHT[kind]);
+            return isOf(MISER) ? Math.min(cold, MISER_TOP) : cold;
         }
 
         int painOf(int d) {
@@ -774,7 +767,7 @@ public final class ColdShares {
             switch (some) {
                 case STOUT: return mostWithoutPain();
                 case POOR: return painOf(TOP_FIGURE) - plainPainOf(TOP_FIGURE);
-                case MISER: return (owes + A_NIGHT[MISER] - 1) / A_NIGHT[MISER];
+                case MISER: return (owes + MISER_TOP - 1) / MISER_TOP;
                 case MAYOR: return plainPainOf(owes);
                 default: return leastWithPain();
             }

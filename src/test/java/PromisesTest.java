@@ -805,6 +805,13 @@ public final class PromisesTest {
         x.night();
         dueChance(33, x, "CANDLEMAS", x.odds(0), 0, 1);
         dueChance(33, x, "CANDLEMAS, OWES none", x.odds(3), 1, 1);
+        ColdShares eight = streetOf("n99999999 h09 h09 h09 h09 h09");
+        for (int h = 1; h < 5; h++) {
+            eight.sell(h, 0, 9);
+        }
+        dueChance(33, eight, "seven NIGHTS behind this one", eight.odds(0), 18931, 62500);
+        eight.sell(0, 1, 5);
+        dueChance(33, eight, "in lowest terms", eight.odds(0), 1102473, 2000000);
         ColdShares last = streetOf("n4 h04 h05");
         dueChance(33, last, "one NIGHT", last.odds(0), 1, 1);
         dueChance(33, last, "one NIGHT, too much", last.odds(1), 0, 1);
