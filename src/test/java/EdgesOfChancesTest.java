@@ -10,6 +10,7 @@ public final class EdgesOfChancesTest {
     }
 
     public static void main(String[] args) {
+        constants();
         iceNumbers();
         iceWays();
         iceSure();
@@ -33,6 +34,17 @@ public final class EdgesOfChancesTest {
         digestOfAll();
         digestTellsApart();
         Edges.end();
+    }
+
+    // ---- Terms
+
+    private static void constants() {
+        Edges.due("BAD", ColdShares.BAD, -1);
+        Edges.due("FULL", ColdShares.FULL, -2);
+        Edges.due("FINDING", ColdShares.FINDING, -3);
+        Edges.due("STATE", ColdShares.STATE, -4);
+        Edges.due("SPENT", ColdShares.SPENT, -6);
+        Edges.due("NONE", ColdShares.NONE, -9);
     }
 
     // ---- 32

@@ -263,7 +263,9 @@ public final class EdgesOfPlansTest {
         dueGain("NONE: who buys has no PLAN ahead of it", "h05h06", NONE);
         dueGain("NONE: who buys has no PLAN behind it", "h05h05", NONE);
         dueGain("NONE: a MISER has no PLAN behind it", "h05m02", NONE);
+        dueGain("NONE: who buys has no PLAN behind it, and nothing HURTS", "y02y02", NONE);
         dueGain("NONE: it OWES none", "h00h00", NONE);
+        dueGain("NONE: it OWES none, and nothing HURTS", "h00h90", NONE);
         dueGain("just what both can", "h05h04", 100);
         dueGain("it OWES one", "h01h00", 100);
         Edges.asks("27 NONE: CANDLEMAS", () -> Edges.candlemasWithDeeds(1), x -> x.gain(0, 1), NONE);
@@ -420,6 +422,13 @@ public final class EdgesOfPlansTest {
         Edges.refused("31 BAD: no HOUSES", ColdShares::new, x -> x.part(0), BAD);
         Edges.refused("31 NONE: it has no PLAN", Edges::lived, x -> x.part(1), NONE);
         Edges.refused("31 NONE: another one has none", Edges::lived, x -> x.part(3), NONE);
+        for (int h = 0; h < 3; h++) {
+            int house = h;
+            Edges.refused("31 NONE: the first has no PLAN, and nothing HURTS",
+                () -> Edges.streetOf("n9m03h00y01"), x -> x.part(house), NONE);
+            Edges.refused("31 NONE: the last has no PLAN, and nothing HURTS",
+                () -> Edges.streetOf("n9h00y01m03"), x -> x.part(house), NONE);
+        }
         Edges.refused("31 BAD ahead of NONE", Edges::lived, x -> x.part(4), BAD);
         ColdShares one = Edges.streetOf("n9h05");
         Edges.chance("31 one HOUSE: 0 by 1", one, one.part(0), 0, 1);
