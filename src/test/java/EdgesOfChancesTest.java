@@ -14,15 +14,18 @@ public final class EdgesOfChancesTest {
         iceNumbers();
         iceWays();
         iceSure();
+        iceOfALaterNight();
         oddsNumbers();
         oddsEdges();
         oddsByTonight();
         riskEdges();
+        chancesOfEachHouse();
         lotsNumbers();
         lotsStates();
         lotsFull();
         lotsNumbersDrawn();
         lotsTillCandlemas();
+        lotsOfEachHouse();
         askedIsLeft();
         askedIsTold();
         upperAndLower();
@@ -101,7 +104,22 @@ public final class EdgesOfChancesTest {
         dueIce("a MISER is sure last", "n5h00h00m00", 10, 1 + 2 + 3, 3);
         dueIce("a MISER is sure", "n5h00h00m00", 11, 2 + 1, 7);
         dueIce("one HOUSE that BORE", "n5h00", 1, 1, 1);
+        dueIce("a MISER ahead of a HOUSE", "n5m00h00", 5, 3, 2);
+        dueIce("a MISER ahead of a HOUSE, all", "n5m00h00", 7, 1, 3);
+        dueIce("a MISER ahead of a HOUSE, one more", "n5m00h00", 8, 0, 0);
         dueIce("the first bit, the last bit", "n5h00y00y00y00h00", 12, waysOfTwoAndThree(12), 17);
+    }
+
+    private static void iceOfALaterNight() {
+        ColdShares x = Edges.streetOf("n952h00h00");
+        Edges.chance("32 a later NIGHT, less COLD", x, x.ice(1, 5), 6, 1);
+        Edges.due("32 a later NIGHT: the others could", x.asked(), 0);
+        Edges.chance("32 a later NIGHT, one more", x, x.ice(1, 6), 5, 1);
+        Edges.due("32 a later NIGHT: the others could not", x.asked(), 3);
+        Edges.chance("32 the last NIGHT", x, x.ice(2, 5), 0, 1);
+        Edges.due("32 the last NIGHT: there is none", x.asked(), 0);
+        x.night();
+        Edges.chance("32 a NIGHT gone by", x, x.ice(0, 18), 1, 1);
     }
 
     // Two up to 5 and three up to 2, together so much.
@@ -135,7 +153,10 @@ public final class EdgesOfChancesTest {
         dueOdds("it OWES none: 1 by 1", "n00h00", 1, 1);
         dueOdds("it can't: 0 by 1", "n0h01", 0, 1);
         dueOdds("one NIGHT, just so", "n5h05", 1, 1);
+        dueOdds("one NIGHT, one less", "n5h04", 1, 1);
         dueOdds("one NIGHT, one more", "n5h06", 0, 1);
+        dueOdds("tonight has more COLD than it OWES", "n90h01", 1, 1);
+        dueOdds("tonight has COLD, and it OWES none", "n99h00", 1, 1);
         dueOdds("two NIGHTS, the COLD told of the other one is nothing", "n50h06", 9, 10);
         dueOdds("two NIGHTS, whatever it is", "n59h06", 9, 10);
         dueOdds("two NIGHTS, 9 more", "n09h09", 1, 10);
@@ -217,6 +238,24 @@ public final class EdgesOfChancesTest {
         dueRisk("CHILDREN, 9 WARM", "c90", 1, 10);
         ColdShares late = Edges.candlemasWithDeeds(1);
         Edges.chance("34 CANDLEMAS", late, late.risk(0), 7, 10);
+    }
+
+    /** Five unlike HOUSES: what is asked of one is told of that one. */
+    private static void chancesOfEachHouse() {
+        ColdShares x = Edges.streetOf("n35 m33 s18 p25 h06 c17");
+        int[][] odds = {{9, 10}, {1, 2}, {4, 5}, {7, 10}, {3, 5}};
+        int[][] risks = {{0, 1}, {3, 5}, {7, 10}, {9, 10}, {9, 10}};
+        for (int h = 0; h < 5; h++) {
+            Edges.chance("33 HOUSE " + h + " of five", x, x.odds(h), odds[h][0], odds[h][1]);
+            Edges.chance("34 HOUSE " + h + " of five", x, x.risk(h), risks[h][0], risks[h][1]);
+        }
+        x.bear(0, 1);
+        Edges.chance("33 the first did BEAR, the last did not", x, x.odds(4), 3, 5);
+        Edges.chance("33 the first did BEAR", x, x.odds(0), 4, 5);
+        x.undo(0);
+        x.bear(4, 1);
+        Edges.chance("33 the last did BEAR", x, x.odds(4), 2, 5);
+        Edges.chance("33 the last did BEAR, the first did not", x, x.odds(0), 9, 10);
     }
 
     // ---- 35
@@ -314,6 +353,25 @@ public final class EdgesOfChancesTest {
         ColdShares did = Edges.streetOf("n91 h09");
         did.bear(0, 2);
         Edges.due("35 what it HURT ahead of them is none of it", did.lots(1, 5), 0);
+    }
+
+    /** What HURTS the others is told, too; who did BEAR in the first NIGHT has numbers in the next ones. */
+    private static void lotsOfEachHouse() {
+        long[] numbers = numbersBy8(4711, 5);
+        ColdShares x = Edges.streetOf("n99 h99 p09 c19");
+        x.bear(1, 4);
+        int warm = (int) (numbers[0] % 10);
+        int last = (int) (numbers[1] % 10);
+        int warmNext = (int) (numbers[2] % (10 - warm));
+        int poorNext = (int) (numbers[3] % 6);
+        int lastNext = (int) (numbers[4] % (10 - last));
+        int hurts = 2 * (last * last + poorNext * poorNext + lastNext * lastNext);
+        Edges.due("35 what all that HURTS", x.lots(2, 4711), hurts);
+        Edges.told("35 the first HOUSE", x, x.house(0, 2), 9 - warm - warmNext);
+        Edges.told("35 who did BEAR in the first NIGHT", x, x.house(1, 2), 5 - poorNext);
+        Edges.told("35 the last HOUSE", x, x.house(2, 2), 9 - last - lastNext);
+        Edges.due("35 CANDLEMAS", x.count(2), 2);
+        Edges.due("35 all that was HURT", x.count(5), 32 + hurts);
     }
 
     // ---- 36

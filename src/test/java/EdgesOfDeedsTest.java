@@ -24,6 +24,8 @@ public final class EdgesOfDeedsTest {
         keepEdges();
         onEdges();
         onAsItWasKept();
+        onWithTheDeedsKept();
+        onUndoneToTheFirst();
         Edges.end();
     }
 
@@ -114,6 +116,8 @@ public final class EdgesOfDeedsTest {
         Edges.due("16 that one did, too", x.bear(1, 1), STATE);
         x.night();
         Edges.due("16 once in each NIGHT", x.bear(0, 1), 0);
+        Edges.told("16 NONE: nothing yet, each HOUSE", x, x.house(1, 4), NONE);
+        Edges.due("16 once in each NIGHT, each HOUSE", x.bear(1, 2), 4);
         Edges.refused("16 STATE: it is CANDLEMAS", () -> Edges.candlemasWithDeeds(1), y -> y.bear(0, 1), STATE);
         ColdShares all = Edges.streetOf("n99 h03");
         Edges.due("16 all that it OWES", all.bear(0, 3), 9);
@@ -322,6 +326,18 @@ public final class EdgesOfDeedsTest {
         Edges.due("21 60 DEEDS", full.on(1), 60);
         Edges.due("21 60 DEEDS: FULL", full.night(), FULL);
         Edges.due("21 60 DEEDS: undone", full.undo(0), 60);
+        ColdShares other = Edges.withDeeds(60);
+        other.keep(1);
+        other.undo(0);
+        for (int i = 0; i < 30; i++) {
+            other.sell(1, 2, 4);
+            other.sell(2, 1, 4);
+        }
+        Edges.due("21 60 DEEDS for 60 others", other.on(1), 60);
+        for (int deeds = 60; deeds > 0; deeds--) {
+            dueOwes("21 DEEDS as kept, " + deeds, other, deeds % 2 == 0 ? 8 : 7, deeds % 2 == 0 ? 9 : 10, 1);
+            other.undo(deeds - 1);
+        }
     }
 
     private static void onAsItWasKept() {
@@ -352,5 +368,61 @@ public final class EdgesOfDeedsTest {
         late.on(0);
         Edges.due("21 CANDLEMAS as it was kept", late.night(), STATE);
         Edges.due("21 other places are missing", late.on(1), FINDING);
+    }
+
+    private static void dueOwes(String sentence, ColdShares x, int... want) {
+        for (int h = 0; h < want.length; h++) {
+            Edges.told(sentence + ", what HOUSE " + h + " OWES", x, x.house(h, 2), want[h]);
+        }
+    }
+
+    /** Other DEEDS of the same numbers come in between: of another HOUSE, to another one, of other degrees, of other sorts. */
+    private static void onWithTheDeedsKept() {
+        ColdShares x = Edges.streetOf("n55 h09 h09 h09 h09");
+        x.sell(0, 1, 2);
+        x.bear(2, 3);
+        x.night();
+        x.bear(3, 1);
+        x.keep(1);
+        x.undo(0);
+        x.sell(3, 2, 5);
+        x.sell(1, 0, 4);
+        x.bear(0, 5);
+        x.sell(2, 3, 1);
+        x.keep(2);
+        x.undo(0);
+        x.night();
+        x.night();
+        Edges.due("21 the DEEDS of place 1", x.on(1), 4);
+        dueOwes("21 who sold to whom, and BORE", x, 7, 11, 6, 8);
+        Edges.due("21 the NIGHT of place 1", x.count(2), 1);
+        Edges.due("21 what was HURT by place 1", x.count(5), 9 + 1);
+        Edges.due("21 the DEEDS of place 2", x.on(2), 4);
+        dueOwes("21 who sold to whom in the other one", x, 8, 5, 13, 5);
+        Edges.due("21 the NIGHT of place 2", x.count(2), 0);
+        Edges.due("21 what was HURT by place 2", x.count(5), 25);
+        Edges.due("21 one of those sales undone", x.undo(1), 3);
+        dueOwes("21 one of those sales is left", x, 9, 9, 14, 4);
+        x.on(1);
+        Edges.due("21 all but the sale undone", x.undo(1), 3);
+        dueOwes("21 the sale is left", x, 7, 11, 9, 9);
+    }
+
+    private static void onUndoneToTheFirst() {
+        ColdShares x = Edges.streetOf("n55 c09 m08 y07");
+        x.wind(1, 4);
+        x.sell(0, 1, 9);
+        x.bear(1, 2);
+        x.keep(0);
+        x.undo(0);
+        x.wind(0, 1);
+        Edges.due("21 behind another wind", x.on(0), 2);
+        Edges.due("21 all of it undone", x.undo(0), 2);
+        dueOwes("21 as at first", x, 9, 8, 7);
+        Edges.due("21 as at first, the COLD kept", x.cold(0), 5);
+        Edges.due("21 as at first, the wind ahead of it", x.cold(1), 4);
+        Edges.told("21 as at first, the KIND", x, x.house(2, 0), 4);
+        Edges.due("21 nothing was HURT", x.count(5), 0);
+        Edges.due("21 without DEEDS again", x.wind(0, 9), 5);
     }
 }

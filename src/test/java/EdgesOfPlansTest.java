@@ -29,6 +29,7 @@ public final class EdgesOfPlansTest {
         savesNone();
         savesValues();
         partEdges();
+        eachHouse();
         Edges.end();
     }
 
@@ -173,6 +174,12 @@ public final class EdgesOfPlansTest {
             x.night();
         }
         dueLeast("as many as NIGHTS from this one on: 1", x, 64, 8);
+        ColdShares behind = Edges.streetOf("n35 m33 h06");
+        Edges.due("24 behind a MISER", behind.least(1, 2), 18);
+        Edges.places("24 behind a MISER", behind, 2, 3, 3);
+        behind.bear(0, 1);
+        Edges.due("24 behind one that did BEAR", behind.least(1, 2), 18);
+        Edges.places("24 behind one that did BEAR", behind, 2, 3, 3);
         ColdShares none = Edges.streetOf("n1 h00");
         none.row(2, 3);
         none.night();
@@ -259,7 +266,10 @@ public final class EdgesOfPlansTest {
 
     private static void gainNone() {
         dueGain("NONE: who sells has no PLAN ahead of it", "h06h00", NONE);
+        dueGain("NONE: who sells has no PLAN ahead of it, and who buys is HURT", "h06h02", NONE);
         dueGain("NONE: who sells has no PLAN behind it", "h07h00", NONE);
+        dueGain("NONE: who sells has no PLAN behind it, and who buys is HURT", "h07h02", NONE);
+        dueGain("NONE: both have no PLAN ahead of it", "h06h06", NONE);
         dueGain("NONE: who buys has no PLAN ahead of it", "h05h06", NONE);
         dueGain("NONE: who buys has no PLAN behind it", "h05h05", NONE);
         dueGain("NONE: a MISER has no PLAN behind it", "h05m02", NONE);
@@ -451,5 +461,32 @@ public final class EdgesOfPlansTest {
         ColdShares nobody = Edges.streetOf("n9y02y00h00");
         nobody.risk(2);
         Edges.chance("31 nothing is saved: 0 by 1", nobody, nobody.part(0), 0, 1);
+    }
+
+    /** Five unlike HOUSES: what is asked of one is told of that one. */
+    private static void eachHouse() {
+        Edges.Made made = () -> Edges.streetOf("n35 h06 s18 p25 m33 c17");
+        int[] hurts = {25, 4, 18, 4, 50};
+        int[] most = {8, 8, 8, 4, 8};
+        int[] least = {18, 4, 2, 0, 50};
+        int[][] plans = {{3, 3}, {3, 5}, {2, 3}, {1, 2}, {3, 4}};
+        int[] price = {7, NONE, 2, 0, 18};
+        int[] less = {5, 3, 2, 0, 14};
+        for (int h = 0; h < 5; h++) {
+            int house = h;
+            Edges.asks("22 HOUSE " + h + " of five", made, x -> x.hurt(house, 5), hurts[h]);
+            Edges.asks("23 HOUSE " + h + " of five", made, x -> x.most(house), most[h]);
+            ColdShares x = made.make();
+            Edges.due("24 HOUSE " + h + " of five", x.least(h, 1), least[h]);
+            Edges.places("24 HOUSE " + h + " of five", x, 1, plans[h]);
+            Edges.asks("25 HOUSE " + h + " of five", made, y -> y.price(house), price[h]);
+            for (int k = 0; k < 5; k++) {
+                int other = k;
+                int want = h == k ? BAD : k == 1 ? NONE : 100 + less[h] - price[k];
+                Edges.asks("27 HOUSE " + h + " to HOUSE " + k + " of five", made, y -> y.gain(house, other), want);
+            }
+        }
+        dueLate("all five", made.make(), 0, 74);
+        dueSales("the last of five sells", made.make(), 8, 6 * 4 + 3);
     }
 }

@@ -27,6 +27,7 @@ public final class EdgesOfStreetsTest {
         markNumbers();
         markUnlike();
         markValues();
+        markEachHouse();
         windNumbers();
         windRefusals();
         Edges.end();
@@ -372,6 +373,27 @@ public final class EdgesOfStreetsTest {
         }
         Edges.due("14 all OWED, a MAYOR", y.mark(0, 4), 45 * 45);
         Edges.due("14 all OWED, in how many NIGHTS", y.mark(0, 3), 23);
+        ColdShares c = Edges.streetOf("n0 c39 s09 p09");
+        c.sell(1, 0, 9);
+        c.sell(2, 0, 9);
+        Edges.due("14 CHILDREN, what they OWE aside", c.mark(0, 5), 3);
+        Edges.due("14 CHILDREN as POOR, what they OWE aside", c.mark(0, 2), 2 * 49 - 36);
+        Edges.due("14 a STOUT one that OWES none", c.mark(1, 1), 2);
+    }
+
+    private static void markEachHouse() {
+        Edges.Made made = () -> Edges.streetOf("n9 h09 s18 p27 m36 c45");
+        Edges.asks("14 HOUSE 1 of five", made, x -> x.mark(1, 1), 3);
+        Edges.asks("14 HOUSE 2 of five", made, x -> x.mark(2, 2), 49);
+        Edges.asks("14 HOUSE 3 of five", made, x -> x.mark(3, 3), 3);
+        Edges.asks("14 the last of five, as POOR", made, x -> x.mark(4, 2), 2 * 36 - 25);
+        Edges.asks("14 the last of five", made, x -> x.mark(4, 5), 4);
+        Edges.finds("14 UNLIKE: the first of five", made, x -> x.mark(0, 5), UNLIKE);
+        Edges.finds("14 UNLIKE: the last of five", made, x -> x.mark(4, 1), UNLIKE);
+        Edges.Made mayors = () -> Edges.streetOf("n9 y09 m09 y23");
+        Edges.asks("14 the last, a MAYOR", mayors, x -> x.mark(2, 4), 1);
+        Edges.asks("14 the last, a MAYOR, as a MISER", mayors, x -> x.mark(2, 3), 2);
+        Edges.finds("14 UNLIKE: a MISER is no MAYOR", mayors, x -> x.mark(1, 4), UNLIKE);
     }
 
     private static void windNumbers() {
@@ -389,9 +411,12 @@ public final class EdgesOfStreetsTest {
         Edges.due("15 what it was: COLD 0", x.wind(0, 9), 0);
         Edges.due("15 COLD 9", x.cold(0), 9);
         Edges.due("15 what it was: the last NIGHT", x.wind(2, 1), 7);
+        Edges.due("15 the last NIGHT is", x.cold(2), 1);
         Edges.due("15 the one beside it is as it was", x.cold(1), 0);
+        Edges.due("15 the first NIGHT is as it was", x.cold(0), 9);
         ColdShares eight = Edges.streetOf("n12345678 h11");
         Edges.due("15 NIGHT 7", eight.wind(7, 3), 8);
+        Edges.due("15 NIGHT 7 is", eight.cold(7), 3);
     }
 
     private static void windRefusals() {
